@@ -29,6 +29,8 @@ public final class TwoMasters {
     private static final int MOST_CHILDREN = 5;
     private static final int MOST_MARKS = 3;
     private static final int MOST_STATES = 50625;
+    /** More than any count or cost. */
+    private static final int VERY_MUCH = 1000000000;
 
     private static final int PLAIN = 0;
     private static final int EVER = 1;
@@ -288,7 +290,7 @@ public final class TwoMasters {
 
     private int bestLesson() {
         int best = NONE;
-        int least = Integer.MAX_VALUE;
+        int least = VERY_MUCH;
         for (int m = 0; m < school.masters; m++) {
             for (int t = 0; t < school.things; t++) {
                 int most = canListen(m, t) ? mostLeft(m, t) : least;
@@ -1385,7 +1387,9 @@ public final class TwoMasters {
         private final long[] planes = new long[4];
 
         void clear() {
-            Arrays.fill(planes, 0L);
+            for (int p = 0; p < planes.length; p++) {
+                planes[p] = 0L;
+            }
         }
 
         void add(long ones) {
@@ -1439,6 +1443,8 @@ public final class TwoMasters {
         final Ways ways = new Ways();
         private final Tally tally = new Tally();
         private int laws;
+        /** MASTERS, as bits, that say something of more THINGS than law wrong lets them be wrong in. */
+        private int watched;
         /** The sayings that are heard, and for each its MASTER's one before (-1: none) and its group. */
         private int heard;
         private final int[] said = new int[SAYING_ROOM];
@@ -1460,6 +1466,7 @@ public final class TwoMasters {
             laws = byLaws;
             hear(sayings);
             pairUp();
+            watch();
             into.words = ways.words;
             for (int w = 0; w < ways.words; w++) {
                 into.bits[w] = lawfulWord(w);
@@ -1544,7 +1551,7 @@ public final class TwoMasters {
                 int other = pairOther[p];
                 fit &= allRight[one] & allWrong[other] | allWrong[one] & allRight[other];
             }
-            return (laws & LAW_WRONG) != 0 ? fit & fewWrongs() : fit;
+            return watched != 0 ? fit & fewWrongs() : fit;
         }
 
         private long fitByKind(int k) {
@@ -1564,18 +1571,33 @@ public final class TwoMasters {
             return -1L;
         }
 
+        private void watch() {
+            watched = 0;
+            if ((laws & LAW_WRONG) == 0) {
+                return;
+            }
+            for (int m = 0; m < ways.told.masters; m++) {
+                int spoken = 0;
+                for (int g = 0; g < groups; g++) {
+                    spoken += groupMaster[g] == m ? 1 : 0;
+                }
+                if (ways.told.kind[m] == PLAIN && spoken > ways.told.wrongLimit) {
+                    watched |= 1 << m;
+                }
+            }
+        }
+
         private long fewWrongs() {
-            School told = ways.told;
             long fit = -1L;
-            for (int m = 0; m < told.masters; m++) {
-                if (told.kind[m] == PLAIN) {
+            for (int m = 0; m < ways.told.masters; m++) {
+                if ((watched >> m & 1) != 0) {
                     tally.clear();
                     for (int g = 0; g < groups; g++) {
                         if (groupMaster[g] == m) {
                             tally.add(~allRight[g]);
                         }
                     }
-                    fit &= tally.atMost(told.wrongLimit);
+                    fit &= tally.atMost(ways.told.wrongLimit);
                 }
             }
             return fit;
@@ -1584,8 +1606,6 @@ public final class TwoMasters {
 
     /** The PROOFS of all THINGS of a SCHOOL, sought once. */
     private static final class Proofs {
-        private static final int MOST_PREMISES = 3;
-
         private final Row row = new Row();
         boolean known;
         private int open;
@@ -1598,18 +1618,31 @@ public final class TwoMasters {
             }
             known = true;
             Arrays.fill(by, NEITHER);
-            School told = court.ways.told;
-            open = (1 << told.things) - 1;
-            for (int many = 0; many <= MOST_PREMISES; many++) {
-                for (int bits = 0; bits <= told.allSayings() && open != 0; bits++) {
-                    if (Integer.bitCount(bits) == many) {
-                        proveBy(court, bits);
+            open = (1 << court.ways.told.things) - 1;
+            proveBy(court, 0);
+            int sayings = court.ways.told.sayings;
+            for (int i = 0; i < sayings; i++) {
+                proveBy(court, 1 << i);
+            }
+            for (int i = 0; i < sayings; i++) {
+                for (int j = 0; j < i; j++) {
+                    proveBy(court, 1 << i | 1 << j);
+                }
+            }
+            for (int i = 0; i < sayings; i++) {
+                for (int j = 0; j < i; j++) {
+                    for (int k = 0; k < j; k++) {
+                        proveBy(court, 1 << i | 1 << j | 1 << k);
                     }
                 }
             }
         }
 
+        /** Fewer sayings come first, and of as many the least bits: the first that prove a THING are kept. */
         private void proveBy(Court court, int sayings) {
+            if (open == 0) {
+                return;
+            }
             court.judge(sayings, court.ways.told.laws, row);
             int proved = court.ways.sureIn(row) & open;
             for (int t = 0; t < MOST_THINGS; t++) {
@@ -1750,8 +1783,8 @@ public final class TwoMasters {
         }
 
         private void choose(int state) {
-            worst[state] = Integer.MAX_VALUE;
-            total[state] = Integer.MAX_VALUE;
+            worst[state] = VERY_MUCH;
+            total[state] = VERY_MUCH;
             for (int k = 0; k < slots; k++) {
                 if (digit[k] == 0) {
                     tryFirst(state, k);
