@@ -324,10 +324,12 @@ public final class Bounds01To05Test extends Desk {
         open(lines("thing # answers 2", 8) + ";law pair;law runs;law wrong 8;" + lines("master m# ever", 6) + ";"
             + lines("says ma # 0", 8) + ";" + lines("child c# hears ma", 5) + ";" + lines("trial # cost 9", 8)
             + ";follows a 1,b 1");
-        enter("thing z answers 3");
         int[] sizes = {1, 0, 0, 0, 0, 0, 0, -2, 0, 0, 0, 0};
-        for (int what = 0; what < sizes.length; what++) {
-            due("size(" + what + ")", x.size(what), sizes[what]);
+        for (int again = 0; again < 3; again++) {
+            enter("thing z answers 3");
+            for (int what = 0; what < sizes.length; what++) {
+                due("size(" + what + ")", x.size(what), sizes[what]);
+            }
         }
         good("worlds()", x.worlds(), 3);
         good("worst(), no trial", x.worst(), -2);
@@ -335,6 +337,20 @@ public final class Bounds01To05Test extends Desk {
         refused("saying(0, 0)", x.saying(0, 0), 1);
         enter("thing ma answers 2;master a plain;law pair;law runs;law wrong 0;trial ma cost 1;child ca hears a");
         due("the NAMES are free again", x.size(3), 1);
+    }
+
+    static void promise03_ofATextWithAFaultNothingIsLeft() {
+        none();
+        refused("school of a FAULT at the end", tell("law pair;law wrong 4;master z ever;thing a answers 4;says z a 0;"
+            + "child c hears z;trial a cost 3;thing b answers 2;follows a 0,b 0;"), 4);
+        enter("thing a answers 2");
+        int[] sizes = {1, 0, 0, 0, 0, 0, 0, -2, 0, 0, 0, 0};
+        for (int what = 0; what < sizes.length; what++) {
+            due("size(" + what + ")", x.size(what), sizes[what]);
+        }
+        good("ways()", x.ways(), 2);
+        good("worlds()", x.worlds(), 2);
+        good("worst()", x.worst(), -2);
     }
 
     // ---- promise 4: fault

@@ -360,6 +360,17 @@ public final class Bounds03TextTest extends Desk {
         sound(1, A + "master m plain;says m a 0;child c hears m;trial a cost 1");
     }
 
+    static void promise03_asManyNamesAsThereIsRoomFor() {
+        String told = lines("master m# plain", 6) + ";" + lines("child c# hears ma,mf", 5) + ";"
+            + lines("thing # answers 2", 8);
+        sound(8, told + ";trial h cost 1;trial a cost 1;says mf h 0;says ma a 1;follows h 0,a 0");
+        faulty(2, told + ";trial |i cost 1");
+        faulty(3, told + ";trial h cost 1;trial |h cost 1");
+        faulty(2, told + ";says mf |ce 0");
+        faulty(3, lines("thing # answers 2", 8) + ";" + lines("master m# plain", 6) + ";"
+            + lines("child c# hears ma", 4) + ";child |h hears ma");
+    }
+
     // ---- FAULTS, "the first that is met from the left, of one place the least number"
 
     static void promise03_theFirstFaultFromTheLeft() {
@@ -394,6 +405,43 @@ public final class Bounds03TextTest extends Desk {
             }
             sound(whole.contains("thing b") ? 2 : 1, whole);
         }
+    }
+
+    /** Each TOKEN of each sort of LINE in place of which one of another kind stands. */
+    static void promise03_formAtEachTokenOfAnotherKind() {
+        String[] texts = {"thing z answers 2", "follows a 0 , b 0", "master z plain", "law wrong 3", "law pair",
+            "says m a 0", "child z hears m , n", "trial a cost 9"};
+        String before = ABM + "master n ever";
+        for (String text : texts) {
+            String[] tokens = text.split(" ");
+            for (int i = 0; i < tokens.length; i++) {
+                StringBuilder start = new StringBuilder(before + ";");
+                for (int k = 0; k < i; k++) {
+                    start.append(tokens[k]).append(' ');
+                }
+                for (String other : othersThan(tokens[i])) {
+                    faulty(1, start + "|" + other);
+                    faulty(1, start + "|" + other + " " + text);
+                }
+            }
+            sound(text.startsWith("thing") ? 3 : 2, before + ";" + text);
+            for (String other : new String[] {"z", "7", ".", "law", "abcdefghi", "1000"}) {
+                faulty(1, before + ";" + text + " |" + other + ";" + text);
+            }
+            if (!text.startsWith("child")) {
+                faulty(1, before + ";" + text + "|,");
+            }
+        }
+    }
+
+    private static String[] othersThan(String token) {
+        if (token.equals(",")) {
+            return new String[] {"z", "7", ".", "law", "abcdefghi", "1000"};
+        }
+        if (Character.isDigit(token.charAt(0))) {
+            return new String[] {"z", ";", ",", ".", "law", "abcdefghi", "1000"};
+        }
+        return new String[] {"7", ";", ",", ".", "abcdefghi", "1000"};
     }
 
     /** "2 a NAME that isn't told, or is of another sort than must stand there; at it". */

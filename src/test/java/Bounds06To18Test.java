@@ -27,6 +27,31 @@ public final class Bounds06To18Test extends Desk {
         good("ways()", x.ways(), 256);
     }
 
+    static void promise06_asManyAsAnswersMake() {
+        int[] ways = {3, 9, 27, 81, 243, 729, 2187};
+        for (int things = 1; things <= 7; things++) {
+            open(lines("thing # answers 3", things));
+            good("ways()", x.ways(), ways[things - 1]);
+            good("worlds()", x.worlds(), ways[things - 1]);
+            good("the last of them", x.world(ways[things - 1] - 1), ways[things - 1] - 1);
+            refused("none behind it", x.world(ways[things - 1]), 1);
+        }
+        enter(lines("thing # answers 3", 5) + ";thing f answers 4;thing g answers 4");
+        good("ways()", x.ways(), 3888);
+        good("worlds()", x.worlds(), 3888);
+    }
+
+    static void promise06_aSmallSchoolBehindAGreatOne() {
+        open(GREAT);
+        enter("thing a answers 3");
+        good("ways()", x.ways(), 3);
+        good("worlds()", x.worlds(), 3);
+        outside("world(#)", 3, 1, i -> x.world(i));
+        outside("lawful(#)", 3, 1, i -> x.lawful(i));
+        good("may(0)", x.may(0), 7);
+        good("likely(0, 2, true)", x.likely(0, 2, true), 3);
+    }
+
     static void promise06_lawfulOrNot() {
         open(CLASH);
         good("ways() without WORLDS", x.ways(), 6);
@@ -137,6 +162,20 @@ public final class Bounds06To18Test extends Desk {
         outside("lawful(#)", 64, 1, i -> x.lawful(i));
     }
 
+    static void promise09_farApart() {
+        open(GREAT + ";master z ever;says z f 3;says z a 0");
+        int[][] lawful = {{0, 0}, {64, 0}, {1023, 0}, {1024, 1}, {1027, 0}, {2048, 1}, {2051, 0}, {4092, 1}, {4094, 1},
+            {4095, 0}};
+        for (int[] way : lawful) {
+            good("lawful(" + way[0] + ")", x.lawful(way[0]), way[1]);
+        }
+        enter(lines("thing # answers 2", 4) + ";" + lines("thing z# answers 4", 4) + ";master y ever;says y zd 3");
+        good("lawful(4095), the eighth of four ANSWERS", x.lawful(4095), 0);
+        good("lawful(4094)", x.lawful(4094), 1);
+        good("worlds()", x.worlds(), 3072);
+        good("may(7)", x.may(7), 7);
+    }
+
     static void promise09_noWorlds() {
         open(CLASH);
         for (int way = 0; way < 6; way++) {
@@ -220,6 +259,17 @@ public final class Bounds06To18Test extends Desk {
         good("world(0)", x.world(0), 0);
         enter(three + ";says p a 0;says p a 1;says q a 2;says q a 1");
         good("worlds(), neither can", x.worlds(), 0);
+    }
+
+    static void promise09_pairOfEightThings() {
+        String two = EIGHT + ";master y plain;master z plain;law pair;" + lines("says y # 0", 8) + ";";
+        open(two + lines("says z # 1", 8));
+        good("worlds()", x.worlds(), 256);
+        enter(two + lines("says z # 1", 7) + ";says z h 0");
+        good("worlds(), of h both say the same", x.worlds(), 0);
+        good("culprit()", x.culprit(), 15);
+        enter(two + lines("says z # 1", 7));
+        good("worlds(), of h but one", x.worlds(), 256);
     }
 
     /** "law wrong: each plain MASTER is wrong in no more THINGS". */
@@ -366,6 +416,14 @@ public final class Bounds06To18Test extends Desk {
         good("may(2)", x.may(2), 15);
     }
 
+    static void promise12_of4096() {
+        open(GREAT + ";master z ever;says z f 3;says z a 0");
+        int[] may = {14, 15, 15, 15, 15, 7};
+        for (int t = 0; t < 6; t++) {
+            good("may(" + t + ")", x.may(t), may[t]);
+        }
+    }
+
     static void promise12_byFacts() {
         open(PAIR);
         x.draw();
@@ -417,8 +475,12 @@ public final class Bounds06To18Test extends Desk {
         good("likely(0, 0, false), never", x.likely(0, 0, false), 0);
         good("likely(0, 0, true), never", x.likely(0, 0, true), 1);
         enter(GREAT);
-        good("likely(5, 3, false), 1,024 of 4,096", x.likely(5, 3, false), 1);
-        good("likely(5, 3, true)", x.likely(5, 3, true), 4);
+        for (int t = 0; t < 6; t++) {
+            for (int a = 0; a < 4; a++) {
+                good("likely(" + t + ", " + a + ", false), 1,024 of 4,096", x.likely(t, a, false), 1);
+                good("likely(" + t + ", " + a + ", true)", x.likely(t, a, true), 4);
+            }
+        }
         enter("thing a answers 3;thing b answers 4;follows a 0,b 0");
         good("likely(0, 1, false), 4 of 9", x.likely(0, 1, false), 4);
         good("likely(0, 1, true)", x.likely(0, 1, true), 9);
@@ -535,6 +597,30 @@ public final class Bounds06To18Test extends Desk {
         enter(EIGHT + ";master m plain;law wrong 3" + said);
         good("wrongs(0, false), law wrong", x.wrongs(0, false), 3);
         good("wrongs(0, true), law wrong", x.wrongs(0, true), 0);
+    }
+
+    static void promise16_sevenOfEight() {
+        String said = ";" + lines("says m # 0", 7);
+        open(EIGHT + ";master m ever" + said + ";law wrong 0");
+        good("wrongs(0, false)", x.wrongs(0, false), 7);
+        good("wrongs(0, true)", x.wrongs(0, true), 7);
+        enter(EIGHT + ";master m plain" + said);
+        good("wrongs(0, false)", x.wrongs(0, false), 7);
+        good("wrongs(0, true)", x.wrongs(0, true), 0);
+    }
+
+    static void promise16_inOneWorldAndInMany() {
+        open("thing a answers 2;master e ever;says e a 1");
+        good("world(0), the only one", x.world(0), 0);
+        good("wrongs(0, false)", x.wrongs(0, false), 1);
+        good("wrongs(0, true)", x.wrongs(0, true), 1);
+        enter(GREAT + ";master y blind;master z ever;says z a 0;says y a 0;says y f 3");
+        good("wrongs(0, false)", x.wrongs(0, false), 2);
+        good("wrongs(0, true)", x.wrongs(0, true), 1);
+        good("wrongs(1, true)", x.wrongs(1, true), 1);
+        enter("thing a answers 2;master e ever;says e a 0");
+        good("wrongs(0, false), behind a great SCHOOL", x.wrongs(0, false), 1);
+        good("wrongs(0, true), behind a great SCHOOL", x.wrongs(0, true), 1);
     }
 
     static void promise16_inThingsNotSayings() {
@@ -654,6 +740,25 @@ public final class Bounds06To18Test extends Desk {
         open("thing a answers 4;master k blind;master e ever;" + lines("says k a 0", 13)
             + ";says e a 0;says e a 1;says e a 2");
         proved(0, 3, 7 << 13);
+    }
+
+    static void promise18_ofTheLastThing() {
+        open(EIGHT + ";master z ever;says z h 1");
+        proved(7, 1, 1);
+        proved(6, -2, -2);
+    }
+
+    /** What LISTEN puts behind all sayings is none of them. */
+    static void promise18_bySayingsThatAreTold() {
+        open("thing a answers 2;thing b answers 2;master e ever;master f ever;says e b 0");
+        good("left(1, 0)", x.left(1, 0), 1);
+        proved(0, -2, -2);
+        proved(1, 1, 1);
+        x.listen();
+        good("worlds()", x.worlds(), 2);
+        good("culprit()", x.culprit(), -2);
+        good("wrongs(1, false)", x.wrongs(1, false), 0);
+        good("byLaws(0)", x.byLaws(0), 1);
     }
 
     static void promise18_ofANewSchool() {

@@ -290,6 +290,25 @@ public final class Bounds19To24Test extends Desk {
         good("worlds() as they were", x.worlds(), 0);
     }
 
+    static void promise23_oneAnswerCanBe() {
+        open("thing a answers 2;thing b answers 3;master e ever;master f ever;says f a 0");
+        good("left(0, 0), 0 alone", x.left(0, 0), 3);
+        enter("thing a answers 2;thing b answers 3;master e ever;master f ever;says f a 1");
+        good("left(0, 0), 1 alone", x.left(0, 0), 3);
+        enter("thing a answers 4;thing b answers 3;master p plain;master f ever;law wrong 0;says f a 0;says f a 1;"
+            + "says f a 2");
+        good("left(0, 0), 3 alone", x.left(0, 0), 3);
+    }
+
+    static void promise23_ofAllUnlikeSayings() {
+        open(EIGHT + ";master w plain;master y plain;master z ever;" + lines("says w # 0", 8) + ";" + lines("says y # 1", 8));
+        good("worlds()", x.worlds(), 256);
+        good("left(2, 7), the seventeenth", x.left(2, 7), 128);
+        refused("left(1, 7)", x.left(1, 7), 5);
+        good("listen()", x.listen(), 16);
+        good("worlds()", x.worlds(), 256);
+    }
+
     static void promise23_theSeventeenthSaying() {
         open("thing a answers 2;thing b answers 2;master p plain;master c change;" + lines("says p a 0", 15)
             + ";says c a 0");

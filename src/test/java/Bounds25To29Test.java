@@ -57,6 +57,27 @@ public final class Bounds25To29Test extends Desk {
         good("believes(0, 0): 1, 2 and 3 alike", x.believes(0, 0), 1);
     }
 
+    static void promise25_amongItsOwnAnswers() {
+        open("thing a answers 4;thing b answers 2;thing c answers 4;master p plain;child d hears p");
+        good("believes(0, 0)", x.believes(0, 0), 0);
+        good("believes(0, 1)", x.believes(0, 1), 0);
+        good("believes(0, 2)", x.believes(0, 2), 0);
+    }
+
+    /** What LISTEN puts behind all sayings no child hears. */
+    static void promise25_bySayingsThatAreTold() {
+        open("thing a answers 2;master e ever;child c hears e");
+        good("left(0, 0)", x.left(0, 0), 1);
+        good("believes(0, 0)", x.believes(0, 0), 0);
+        good("knows(0)", x.knows(0), 0);
+        good("share(1)", x.share(1), 0);
+        good("passes(0, 1, true)", x.passes(0, 1, true), 2);
+        enter(lines("thing # answers 2", 2) + ";master e ever;child c hears e;says e b 0;says e b 0");
+        good("left(0, 0)", x.left(0, 0), 1);
+        good("knows(0)", x.knows(0), 2);
+        good("believes(0, 0)", x.believes(0, 0), 0);
+    }
+
     static void promise25_withoutFacts() {
         open("thing a answers 2;thing b answers 2;master p plain;child c hears p;trial a cost 1");
         x.seed(872);
@@ -199,6 +220,16 @@ public final class Bounds25To29Test extends Desk {
         enter("thing a answers 2;master e ever;says e a 0;child c hears e");
         passed(0, 1, 1, 1);
         passed(0, 2, 0, 1);
+    }
+
+    static void promise28_of4096() {
+        open(lines("thing # answers 4", 6) + ";master z plain;child y hears z");
+        passed(0, 0, 1, 1);
+        passed(0, 6, 1, 4096);
+        passed(0, 7, 0, 1);
+        passed(0, 1, 3367, 4096);
+        enter("thing a answers 2;master z plain;child y hears z");
+        passed(0, 1, 1, 2);
     }
 
     static void promise28_byFacts() {

@@ -380,6 +380,48 @@ public final class Bounds36To42Test extends Desk {
         return String.join(" ", words);
     }
 
+    /** Two MARKS of like FACTS but unlike ANSWERS. */
+    static void promise42_likeFactsOfUnlikeAnswers() {
+        for (int t = 0; t < 6; t++) {
+            for (int a = 1; a < 4; a++) {
+                open(lines("thing # answers 4", 6) + ";" + lines("trial # cost 1", 6));
+                hide(0);
+                good("tries(" + t + ")", x.tries(t), 0);
+                x.mark();
+                hide(a << 10 - 2 * t);
+                good("tries(" + t + ")", x.tries(t), a);
+                x.mark();
+                good("world(0)", x.world(0), a << 10 - 2 * t);
+                x.back(0);
+                good("world(0)", x.world(0), 0);
+                good("sure(" + t + ")", x.sure(t), 0);
+                x.back(1);
+                good("world(0)", x.world(0), a << 10 - 2 * t);
+                good("sure(" + t + ")", x.sure(t), a);
+            }
+        }
+    }
+
+    /** Of 4,096 WORLDS the one of a number is hidden: by the SEED that comes ahead of it. */
+    private static void hide(int way) {
+        for (int seed = 0; seed <= 65536; seed++) {
+            if ((75 * seed + 74) % 65537 == way) {
+                x.seed(seed);
+            }
+        }
+        x.draw();
+        due("SEED", x.size(8), way);
+    }
+
+    static void promise42_answeredRightBehindARefusal() {
+        open(TERM);
+        x.mark();
+        refused("back(1)", x.back(1), 1);
+        good("back(0)", x.back(0));
+        refused("seed(-1)", x.seed(-1), 2);
+        good("seed(0)", x.seed(0));
+    }
+
     static void promise42_whatIsReckonedFollows() {
         open(TERM);
         x.mark();
