@@ -347,6 +347,15 @@ public final class Bounds06To18Test extends Desk {
         good("culprit() again", x.culprit(), 1);
     }
 
+    /** CULPRIT asks for LAWFUL WAYS, not for WORLDS: by p and q alone a can't be 2, and it is. */
+    static void promise10_withoutFacts() {
+        open("thing a answers 3;master p plain;master q plain;master r plain;law pair;says p a 0;says q a 1;says r a 0;"
+            + "trial a cost 1");
+        x.draw();
+        good("tries(0): 74 mod 3 is 2", x.tries(0), 2);
+        good("culprit()", x.culprit(), -2);
+    }
+
     // ---- promise 11: "The ANSWER of a SURE THING; -2 if it isn't. NONE: 1; 6 (no WORLDS)."
 
     static void promise11_noSchool() {

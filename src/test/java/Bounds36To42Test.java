@@ -402,7 +402,61 @@ public final class Bounds36To42Test extends Desk {
         }
     }
 
-    /** Of 4,096 WORLDS the one of a number is hidden: by the SEED that comes ahead of it. */
+    static void promise42_likeFactsOfTwoThings() {
+        for (int one = 0; one < 16; one++) {
+            for (int other = 0; other < one; other++) {
+                open(lines("thing # answers 4", 6) + ";" + lines("trial # cost 1", 6));
+                for (int way : new int[] {one, other}) {
+                    hide(way << 8);
+                    x.tries(0);
+                    x.tries(1);
+                    x.mark();
+                }
+                x.back(0);
+                good("world(0)", x.world(0), one << 8);
+                good("worlds()", x.worlds(), 256);
+                x.back(1);
+                good("world(0)", x.world(0), other << 8);
+            }
+        }
+    }
+
+    static void promise42_unlikeFactsOfTheFirstAndTheLastThing() {
+        int[] facts = {1, 128, 129};
+        for (int hidden : new int[] {0, 1, 128, 129}) {
+            for (int other : new int[] {0, 1, 128, 129}) {
+                for (int one = 0; one < 3; one++) {
+                    open(EIGHT + ";" + lines("trial # cost 1", 8));
+                    markTried(hidden, facts[one]);
+                    markTried(other, facts[(one + 1) % 3]);
+                    x.back(0);
+                    seesFacts(hidden, facts[one]);
+                    x.back(1);
+                    seesFacts(other, facts[(one + 1) % 3]);
+                }
+            }
+        }
+    }
+
+    /** A hidden WAY of 256, of which a (bit 128 of its number, 1 of facts) and h are tried. */
+    private static void markTried(int way, int facts) {
+        hide(way);
+        if ((facts & 1) != 0) {
+            good("tries(0)", x.tries(0), way >> 7);
+        }
+        if ((facts & 128) != 0) {
+            good("tries(7)", x.tries(7), way & 1);
+        }
+        x.mark();
+    }
+
+    private static void seesFacts(int way, int facts) {
+        good("may(0)", x.may(0), (facts & 1) != 0 ? 1 << (way >> 7) : 3);
+        good("may(7)", x.may(7), (facts & 128) != 0 ? 1 << (way & 1) : 3);
+        good("worlds()", x.worlds(), facts == 129 ? 64 : 128);
+    }
+
+    /** The WORLD of a number is hidden, if all WAYS are WORLDS: by the SEED that comes ahead of it. */
     private static void hide(int way) {
         for (int seed = 0; seed <= 65536; seed++) {
             if ((75 * seed + 74) % 65537 == way) {
